@@ -144,7 +144,17 @@ public final class ShelfTest {
             c.due("same of " + place, x.same(place, 0), false);
             c.due("same of " + place + " twice", x.same(place, place), false);
         }
+        contentsThatWereLonger();
         contentsThatCameFromTheOtherKind();
+    }
+
+    private static void contentsThatWereLonger() {
+        PersistentShelf x = new PersistentShelf();
+        c.list(x, 0, 1, 2, 3);
+        c.list(x, 1, 1, 8);
+        c.due("shortened", x.part(0, 0, 1, 0), 1);
+        c.due("shortened", x.part(1, 0, 1, 1), 1);
+        c.due("what was behind does not count", x.same(0, 1), true);
     }
 
     private static void contentsThatCameFromTheOtherKind() {
