@@ -20,6 +20,33 @@ final class Checks {
         due(call, got ? 1 : 0, want ? 1 : 0);
     }
 
+    void due(String call, String got, String want) {
+        made++;
+        if (!got.equals(want)) {
+            wrong++;
+            System.out.println(promise + ": " + call + " told '" + got + "', due is '" + want + "'");
+        }
+    }
+
+    /** Makes every call on a newly filled shelf: its answer is due, and that nothing has changed. */
+    void refused(Stock.Row... rows) {
+        String[] before = Stock.look(Stock.filled());
+        for (Stock.Row row : rows) {
+            PersistentShelf x = Stock.filled();
+            due(row.name(), row.call().on(x), row.due());
+            unchanged(row.name(), before, Stock.look(x), -1);
+        }
+    }
+
+    /** All places but one are as before. */
+    void unchanged(String when, String[] before, String[] after, int but) {
+        for (int place = 0; place < 8; place++) {
+            if (place != but) {
+                due("after " + when + ", place " + place, after[place], before[place]);
+            }
+        }
+    }
+
     /** Builds a map in a place from keys and values in turns. */
     void map(PersistentShelf x, int place, int... pairs) {
         due("make(" + place + ", MAP)", x.make(place, PersistentShelf.MAP), 0);
