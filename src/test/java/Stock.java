@@ -2,6 +2,7 @@
 final class Stock {
     static final int SMALL_MAP = 0, SMALL_LIST = 1, NONE = 2, FULL_MAP = 3, FULL_LIST = 4;
     static final int OTHER_FULL_MAP = 5, EMPTY_MAP = 6, EMPTY_LIST = 7;
+    static final int CALLS_TO_FILL = 3 + 4 + 25 + 49 + 25 + 1 + 1;
 
     /** A call on a shelf; a boolean answer counts 1 or 0. */
     interface Call {
@@ -19,9 +20,7 @@ final class Stock {
     record Work(String name, Operation operation, int size) {
     }
 
-    /**
-     * One work of every operation, none of them refused: each is named with the size that is due.
-     */
+    /** Works of every operation, none of them refused, each with the size that is due. */
     static final Work[] WORKS = {
         new Work("make a map", (x, to) -> x.make(to, PersistentShelf.MAP), 0),
         new Work("make a list", (x, to) -> x.make(to, PersistentShelf.LIST), 0),
@@ -51,7 +50,7 @@ final class Stock {
     private Stock() {
     }
 
-    /** Takes CALLS_TO_FILL calls. */
+    /** Takes CALLS_TO_FILL of the 512 calls that an object is used for. */
     static PersistentShelf filled() {
         PersistentShelf x = new PersistentShelf();
         putAll(x, SMALL_MAP, 1, 10, 5, 50);
@@ -63,8 +62,6 @@ final class Stock {
         insertAll(x, EMPTY_LIST);
         return x;
     }
-
-    static final int CALLS_TO_FILL = 3 + 4 + 25 + 49 + 25 + 1 + 1;
 
     static void putAll(PersistentShelf x, int place, int... pairs) {
         x.make(place, PersistentShelf.MAP);
