@@ -1,7 +1,7 @@
 import java.util.ArrayList;
 import java.util.List;
 
-/** The boundary cases that "What it is" and "Terms" name for all promises: one test for each sentence. */
+/** The boundary cases that "What it is", "Terms" and "Not promised" name for all promises: one test for each sentence. */
 public final class TermsEdgeTest {
     private static final int BAD = PersistentShelf.BAD, KIND = PersistentShelf.KIND;
     private static final int INDEX = PersistentShelf.INDEX, FULL = PersistentShelf.FULL;
@@ -36,6 +36,7 @@ public final class TermsEdgeTest {
         kindComesBeforeIndexAndFull();
         indexComesBeforeFull();
         fullCountsTheNewCollectionAlone();
+        looksChangeNothing();
         c.end();
     }
 
@@ -456,6 +457,31 @@ public final class TermsEdgeTest {
         c.due("half of it", x.part(FULL_L, 0, 24, N), 24);
         c.due("twice", x.join(N, N, N), 48);
         c.due("a full list of 24 different elements", x.convert(N, 2, N), 24);
+    }
+
+    private static void looksChangeNothing() {
+        c.promise("Nothing beyond the answers and state changes described: a look changes nothing");
+        c.refused(LOOKS);
+        for (int place : new int[] {M, L, N, FULL_M, FULL_L, -1, 8}) {
+            lookAround(place);
+        }
+    }
+
+    /** Looks from a place, right and wrong ones: the answers are tested with each promise. */
+    private static void lookAround(int place) {
+        PersistentShelf x = Stock.filled();
+        String[] before = Stock.look(Stock.filled());
+        for (int n : new int[] {LEAST, -1, 0, 1, 24, 48, MOST}) {
+            x.value(place, n);
+            x.key(place, n);
+            x.at(place, n);
+            x.sum(place, n, MOST);
+            x.sum(place, LEAST, n);
+            x.about(place, n);
+            x.same(place, n);
+            x.same(n, place);
+        }
+        c.unchanged("looks from " + place, before, Stock.look(x), -1);
     }
 
     private static void refused(List<Stock.Row> rows) {
